@@ -563,6 +563,7 @@ public final class StationBook {
     /** ROUTERS, in no order of their own: their order depends on the ENTRIES of the moment. */
     private static final class Routers {
         private static final int LIMIT = 4;
+        private static final int RANKS = 3;
 
         private final int[] addresses = new int[LIMIT];
         private final int[] ranks = new int[LIMIT];
@@ -634,34 +635,26 @@ public final class StationBook {
             return entries.hasMark(addresses[slot]);
         }
 
-        private boolean isAhead(int slot, int other, Entries entries) {
-            boolean good = isGood(slot, entries);
-            if (good != isGood(other, entries)) {
-                return good;
-            }
-            if (ranks[slot] != ranks[other]) {
-                return ranks[slot] > ranks[other];
-            }
-            return addresses[slot] < addresses[other];
+        /** Greater for the one that comes first in order, and never alike for two: GOOD, then RANK, then ADDRESS. */
+        private int weight(int slot, Entries entries) {
+            int good = entries.hasMark(addresses[slot]) ? 1 : 0;
+            return (good * RANKS + ranks[slot]) * ADDRESSES - addresses[slot];
         }
 
         private int slotInOrder(int place, Entries entries) {
             for (int slot = 0; slot < size; slot++) {
-                if (howManyAhead(slot, entries) == place) {
+                int weight = weight(slot, entries);
+                int ahead = 0;
+                for (int other = 0; other < size; other++) {
+                    if (weight(other, entries) > weight) {
+                        ahead++;
+                    }
+                }
+                if (ahead == place) {
                     return slot;
                 }
             }
             return NONE;
-        }
-
-        private int howManyAhead(int slot, Entries entries) {
-            int ahead = 0;
-            for (int other = 0; other < size; other++) {
-                if (isAhead(other, slot, entries)) {
-                    ahead++;
-                }
-            }
-            return ahead;
         }
 
         private int firstGood(Entries entries) {
@@ -725,11 +718,11 @@ public final class StationBook {
         }
 
         private boolean has(int address) {
-            return isAddress(address) && states[address] != ABSENT;
+            return address >= 0 && address < ADDRESSES && states[address] != ABSENT;
         }
 
         private boolean hasMark(int address) {
-            return has(address) && states[address] != ASKING;
+            return address >= 0 && address < ADDRESSES && states[address] != ABSENT && states[address] != ASKING;
         }
 
         private int stateOf(int address) {
@@ -794,7 +787,6 @@ public final class StationBook {
             size++;
             marks[address] = mark;
             used[address] = now;
-            waiting[address] = 0;
             become(address, state, NONE);
         }
 

@@ -265,6 +265,12 @@ public final class HeardTest {
         DUE.is("one no more", x.told(0, 1, 0, 1), 0);
         DUE.is("none", x.router(0, 0), -101);
         DUE.is("none yet", x.told(1, 1, 0, 1), 0);
+        x.told(2, 1, 20, 1);
+        x.told(3, 1, 30, 0);
+        x.told(4, 1, 40, -1);
+        DUE.is("the first one no more", x.told(2, 1, 0, 0), 2);
+        DUE.router("the others are as they were", x, 0, 3, 0, 33, 1);
+        DUE.router("the others are as they were", x, 1, 4, -1, 43, 1);
     }
 
     private static void toldIsHeard() {

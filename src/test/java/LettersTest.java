@@ -5,6 +5,7 @@ public final class LettersTest {
     public static void main(String[] args) {
         sendRefuses();
         sendHolds();
+        firstAndLastAddress();
         sendGoesOut();
         sendNeedsRoom();
         leastUsedIsGone();
@@ -71,6 +72,26 @@ public final class LettersTest {
         x.send(4, 20);
         DUE.is("the neighbour's", x.held(4, 0), 20);
         DUE.is("held(3, 2)", x.held(3, 2), 15);
+    }
+
+    private static void firstAndLastAddress() {
+        int[] addresses = {0, 15};
+        for (int address : addresses) {
+            StationBook x = new StationBook();
+            for (int letter = 1; letter <= 7; letter++) {
+                DUE.is("send", x.send(address, letter), letter < 4 ? 1 : 2);
+            }
+            DUE.is("all held", x.count(3), 3);
+            DUE.is("held", x.held(address, 0), 5);
+            DUE.is("held", x.held(address, 2), 7);
+            x.answered(address, 1, false, false, false);
+            for (int other = 4; other < 8; other++) {
+                x.send(other, 1);
+            }
+            DUE.is("room", x.send(9, 1), 1);
+            DUE.is("gone", x.entry(address, 0), -101);
+            DUE.is("five", x.count(0), 5);
+        }
     }
 
     private static void sendGoesOut() {
