@@ -84,6 +84,8 @@ public final class FaceTest {
             }
             for (Method f : c.getDeclaredMethods()) {
                 yes(c.getName() + "." + f.getName() + " has at most seven parameters", f.getParameterCount() <= 7);
+                yes(c.getName() + "." + f.getName() + " bears no public name",
+                    FACE.stream().noneMatch(face -> face.contains(" " + f.getName() + "(")));
             }
         }
     }

@@ -102,16 +102,17 @@ public final class Promise14RouterTest extends Books {
     }
 
     static void theOthersCloseUpWhereOneIsOneNoMore() {
+        int[] ranks = {1, 1, 0, -1};
         for (int ended = 0; ended < 4; ended++) {
             StationBook x = new StationBook();
             for (int address = 0; address < 4; address++) {
-                x.told(address, 1, 100 + address, 0);
+                x.told(address, 1, 100 + address, ranks[address]);
             }
             x.told(ended, 1, 0, 0);
             int place = 0;
             for (int address = 0; address < 4; address++) {
                 if (address != ended) {
-                    DUE.router("closed up", x, place, address, 0, 100 + address, 1);
+                    DUE.router("closed up", x, place, address, ranks[address], 100 + address, 1);
                     place++;
                 }
             }
