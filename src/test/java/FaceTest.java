@@ -5,8 +5,12 @@ import java.lang.reflect.Modifier;
 import java.nio.file.Files;
 import java.nio.file.Path;
 import java.util.Arrays;
+import java.util.HashMap;
+import java.util.HashSet;
+import java.util.Map;
 import java.util.Set;
 import java.util.TreeSet;
+import java.util.regex.Matcher;
 import java.util.regex.Pattern;
 import java.util.stream.Collectors;
 
@@ -26,6 +30,7 @@ public final class FaceTest {
         theMembers();
         theClassesInside();
         theWords();
+        theMethods();
         DUE.end();
     }
 
@@ -90,13 +95,62 @@ public final class FaceTest {
         }
     }
 
+    private static String source() throws Exception {
+        return Files.readString(Path.of("src/main/java/StationBook.java"));
+    }
+
+    private static String withoutComments(String source) {
+        return source.replaceAll("(?s)/\\*.*?\\*/", " ").replaceAll("//[^\n]*", " ");
+    }
+
     private static void theWords() throws Exception {
-        String source = Files.readString(Path.of("src/main/java/StationBook.java"));
+        String source = source();
         yes("plain signs alone", source.chars().allMatch(c -> c == '\n' || c >= 32 && c < 127));
-        String code = source.replaceAll("(?s)/\\*.*?\\*/", " ").replaceAll("//[^\n]*", " ");
+        String code = withoutComments(source);
         for (String word : FORBIDDEN) {
             yes("no " + word, !Pattern.compile("\\b" + word + "\\b").matcher(code).find());
         }
         yes("no lambda, no method reference", !code.contains("->") && !code.contains("::"));
+    }
+
+    /** Rule 11: short methods, calls at most eight deep, none of which calls itself. */
+    private static void theMethods() throws Exception {
+        Map<String, Set<String>> calls = new HashMap<>();
+        String code = withoutComments(source());
+        Matcher head = Pattern.compile("\\n +(?:public|private) (?:static )?(?:\\w+ )?(\\w+)\\([^)]*\\) \\{\\n").matcher(code);
+        while (head.find()) {
+            String body = body(code, head.end());
+            yes(head.group(1) + " is short", body.lines().count() <= 60);
+            Set<String> called = calls.computeIfAbsent(head.group(1), name -> new HashSet<>());
+            Matcher call = Pattern.compile("\\b(\\w+)\\(").matcher(body);
+            while (call.find()) {
+                called.add(call.group(1));
+            }
+        }
+        yes("the methods were found", calls.keySet().containsAll(Set.of("pass", "digest", "StationBook", "Entries", "goneAt")));
+        for (String name : calls.keySet()) {
+            yes(name + " goes at most eight deep", depth(name, calls, 0) <= 8);
+        }
+    }
+
+    private static String body(String code, int start) {
+        int open = 1;
+        int end = start;
+        while (open > 0 && end < code.length()) {
+            open += code.charAt(end) == '{' ? 1 : code.charAt(end) == '}' ? -1 : 0;
+            end++;
+        }
+        return code.substring(start, end);
+    }
+
+    /** Methods of one name in several classes are taken as one, so that this may be too much, but never too little. */
+    private static int depth(String name, Map<String, Set<String>> calls, int above) {
+        int deepest = 0;
+        for (String called : calls.getOrDefault(name, Set.of())) {
+            if (calls.containsKey(called) && above < 20) {
+                deepest = Math.max(deepest, depth(called, calls, above + 1));
+            }
+        }
+        return deepest + 1;
     }
 }
