@@ -216,25 +216,9 @@ public final class TermsTest extends Books {
 
     // ---- HOP
 
-    /** The HOPS that are kept, as better() was answered: {GOAL, HOP}, the one kept first of all first. */
-    private static void keep(List<int[]> kept, int goal, int hop) {
-        for (int[] one : kept) {
-            if (one[0] == goal) {
-                one[1] = hop;
-                return;
-            }
-        }
-        if (kept.size() == 4) {
-            kept.remove(0);
-        }
-        kept.add(new int[] {goal, hop});
-    }
-
-    private static int dueHop(List<int[]> kept, Seen now, int goal) {
-        for (int[] one : kept) {
-            if (one[0] == goal) {
-                return one[1];
-            }
+    private static int dueHop(Kept kept, Seen now, int goal) {
+        if (kept.hopOf(goal) != NONE) {
+            return kept.hopOf(goal);
         }
         if (now.routers.isEmpty()) {
             return NONE;
@@ -247,18 +231,11 @@ public final class TermsTest extends Books {
     }
 
     static void aHopIsTheKeptOneElseTheFirstGoodRouterElseTheOneInTurn() {
-        List<int[]> kept = new ArrayList<>();
+        Kept kept = new Kept();
         int[] seen = new int[5];
         Walk.aroundEachCall((what, before, step, answer, x) -> {
-            if (before.count[2] == 0) {
-                // Also where another walk begins.
-                kept.clear();
-            }
-            if (step.is("better") && answer == 1) {
-                keep(kept, step.a()[1], step.a()[2]);
-            }
             Seen now = new Seen(x);
-            kept.removeIf(one -> before.has(one[1]) && !now.has(one[1]));
+            kept.follow(before, step, answer, now);
             DUE.is(what + ": kept", now.count[2], kept.size());
             seen[kept.size()]++;
             for (int goal = 16; goal <= 47; goal++) {

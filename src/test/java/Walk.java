@@ -65,6 +65,7 @@ final class Walk {
     private final int marks;
     private final int longest;
     private final int longestLife;
+    private final int mine;
     private final int[] weights = new int[CHANGING.length];
 
     private Walk(int seed) {
@@ -74,6 +75,7 @@ final class Walk {
         marks = 1 + random.nextInt(4);
         longest = random.nextBoolean() ? 3 : 15;
         longestLife = random.nextBoolean() ? 60 : 200;
+        mine = random.nextInt(16);
         for (int i = 0; i < weights.length; i++) {
             weights[i] = 1 + random.nextInt(10);
         }
@@ -149,6 +151,8 @@ final class Walk {
     private int[] numbers(String name) {
         int address = random.nextInt(addresses);
         int other = random.nextInt(addresses);
+        // An ADDRESS that is tried again and again, and asked for, or what OWN answers would hardly be seen.
+        int claimed = random.nextInt(3) == 0 ? other : mine;
         int goal = 16 + random.nextInt(goals);
         int mark = 1 + random.nextInt(marks);
         int letter = 1 + random.nextInt(999);
@@ -157,9 +161,10 @@ final class Walk {
             case "pass" -> new int[] {1 + random.nextInt(longest), 0, 0, 0};
             case "send" -> new int[] {address, letter, 0, 0};
             case "route" -> new int[] {goal, letter, 0, 0};
-            case "asks" -> new int[] {random.nextInt(3) == 0 ? -1 : address, mark, other, 0};
+            case "asks" -> new int[] {random.nextInt(3) == 0 ? -1 : address, mark, claimed, 0};
             case "told" -> new int[] {address, mark, life, random.nextInt(3) - 1};
             case "better" -> new int[] {address, goal, other, 0};
+            case "claim" -> new int[] {claimed, 0, 0, 0};
             default -> new int[] {address, mark, 0, 0};
         };
     }
