@@ -2,7 +2,7 @@ import java.util.Arrays;
 import java.util.List;
 
 /**
- * Promises 2 to 19, a method each, looked at around each call of many walks: what was told before the call says what
+ * Promises 2 to 19, a method each (12 to 17 share one), around each call of many walks: what was told before it says what
  * the call must answer, when it must be refused, and what is told behind it. What "Terms" says is looked at by TermsTest.
  */
 public final class PromisesTest extends Books {
